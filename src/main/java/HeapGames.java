@@ -846,7 +846,8 @@ public final class HeapGames {
             look(numbers.get(position) - 1);
             for (int head = 0; head < queued && head < POSITIONS; head++) {
                 int number = queue.get(head);
-                for (int step = firstSteps.get(number); step < firstSteps.get(number + 1); step++) {
+                int end = firstSteps.get(number + 1);
+                for (int step = firstSteps.get(number); step < end; step++) {
                     look(steps.get(step));
                 }
             }
@@ -903,7 +904,8 @@ public final class HeapGames {
             }
             // Each entry is the end of its part now, and goes down to the start as the part is filled.
             for (int number = 0; number < found; number++) {
-                for (int step = firstSteps.get(number); step < firstSteps.get(number + 1); step++) {
+                int end = firstSteps.get(number + 1);
+                for (int step = firstSteps.get(number); step < end; step++) {
                     int target = steps.get(step);
                     firstBackSteps.add(target, -1);
                     backSteps.set(firstBackSteps.get(target), number);
@@ -923,14 +925,15 @@ public final class HeapGames {
         }
 
         private void stepBackFrom(int number) {
-            int lost = outcomes.get(number);
+            int reached = outcomes.get(number);
             int farther = distances.get(number) + 1;
-            for (int step = firstBackSteps.get(number); step < firstBackSteps.get(number + 1); step++) {
+            int end = firstBackSteps.get(number + 1);
+            for (int step = firstBackSteps.get(number); step < end; step++) {
                 int origin = backSteps.get(step);
                 if (outcomes.get(origin) != DRAW) {
                     continue;
                 }
-                if (lost == 0) {
+                if (reached == 0) {
                     settle(origin, 1, farther);
                 } else {
                     hopes.add(origin, -1);
