@@ -995,7 +995,6 @@ public final class HeapGames {
                 return;
             }
             reachedFrom.clear();
-            values.set(0, 0);
             for (int size = 1; size <= GREATEST_HEAP; size++) {
                 reachAllFrom(size);
                 values.set(size, leastNotReachedFrom(size));

@@ -29,6 +29,7 @@ public final class PromisesTest {
         distances();
         bestMoves();
         goodMoves();
+        changedRules();
         playingOut();
         outcomesWith();
         censuses();
@@ -648,6 +649,25 @@ public final class PromisesTest {
         due("no moves", 0, game("nim", "").good());
     }
 
+    /** Each of the setters has to be felt by what was solved before it. */
+    private static void changedRules() {
+        HeapGames game = game(".3", "2+2");
+        dueSolution(game, 0, 4, 0, 1);
+        game.setDigit(2, 1);
+        dueSolution(game, 0, 4, 0, 2);
+        game.setObliging(2);
+        dueSolution(game, 1, 3, 0, 1);
+        game.setGrowing(4);
+        due("moves after setGrowing", 3, game.count(4));
+        due("reachable after setGrowing", 12, game.count(7));
+        game.setGrowing(0);
+        game.setMisere(true);
+        due("misere outcome", 1, game.outcome());
+        typed(game, ".01").readRules();
+        dueSolution(game, 1, 2, 0, 1);
+        due("reachable after readRules", 3, game.count(7));
+    }
+
     private static void playingOut() {
         HeapGames game = game("nim", "2+2+3");
         int[] bad = {0, 41, -1, Integer.MIN_VALUE, Integer.MAX_VALUE};
@@ -769,6 +789,12 @@ public final class PromisesTest {
         duePeriod("guiles", 10, 1);
         duePeriod("kayles", NONE, NONE);
         duePeriod("dawson", NONE, NONE);
+        duePeriod(".3040701053", 20, 0);
+        duePeriod(".0322711", 8, 20);
+        // A period of 21, one of 8 that would start at 21, and one of 18 that only the value of 60 breaks.
+        duePeriod(".1000145002", NONE, NONE);
+        duePeriod(".023701", NONE, NONE);
+        duePeriod(".1000232620", NONE, NONE);
         HeapGames game = game("kayles", "");
         int[] bad = {-1, 2, Integer.MIN_VALUE, Integer.MAX_VALUE};
         for (int what : bad) {
