@@ -177,6 +177,20 @@ public final class BoundaryTextsTest extends Boundaries {
         dueRules(".7", "7000000000");
     }
 
+    @Sentence(at = "Texts", says = "digits that are not written are 0.")
+    static void textsDigitsOfEarlierTextsAreGone() {
+        String[] earlier = {".7777777777", "nim", ".77777777777", ".777x", "dawson"};
+        for (String text : earlier) {
+            HeapGames game = typed(new HeapGames(), text);
+            game.readRules();
+            game.erase();
+            due("readRules of .4", 1, typed(game, ".4").readRules());
+            for (int k = 1; k <= 10; k++) {
+                due("digit " + k + " by .4 after " + text, k == 1 ? 4 : 0, game.rule(k));
+            }
+        }
+    }
+
     // ---- Texts: numbers
 
     @Sentence(at = "Texts", says = "A number is one or two digits, as many as there are, and at least 1 (05 is 5); a third "
@@ -517,6 +531,10 @@ public final class BoundaryTextsTest extends Boundaries {
         duePosition("after the empty text", "", game);
         due("history", 3, game.count(5));
         due("the digits stay", 3, game.rule(1));
+        due("a text with a fault", -2005, typed(game, "1!+2px").readPosition());
+        game.erase();
+        due("the text after it", 1, typed(game, "3").readPosition());
+        duePosition("nothing of the earlier text", "3", game);
     }
 
     @Sentence(at = "Promise 13", says = "Returns the number of heaps;")

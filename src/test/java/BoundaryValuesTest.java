@@ -43,6 +43,23 @@ public final class BoundaryValuesTest extends Boundaries {
         due("value of 5 by one other digit", 0, game.grundy(5));
     }
 
+    @Sentence(at = "Grundy values", says = "They belong to the digits alone")
+    static void grundyByTheDigitsAtPresent() {
+        String[] rules = {"nim", ".7777777777", "kayles", ".0", ".3", "dawson", ".2", "nim"};
+        HeapGames game = new HeapGames();
+        for (String rule : rules) {
+            typed(game, rule).readRules();
+            HeapGames fresh = game(rule, "");
+            for (int size = 60; size >= 54; size--) {
+                due("value of " + size + " by " + rule, fresh.grundy(size), game.grundy(size));
+            }
+        }
+        HeapGames none = game("nim", "");
+        due("value of 60 by nim", 5, none.grundy(60));
+        typed(none, ".0").readRules();
+        due("value of 60 without moves", 0, none.grundy(60));
+    }
+
     @Sentence(at = "Grundy values", says = "The value of a heap of n counters, n from 0 to 60, is the least number from 0 on "
             + "that is not the value of any result of a move in it, the value of two heaps being the exclusive or of their "
             + "values.")
@@ -199,6 +216,10 @@ public final class BoundaryValuesTest extends Boundaries {
         due("period(0)", 10, game.period(0));
         due("period(1)", 1, game.period(1));
         due("period(2)", BAD, game.period(2));
+        due("period(1) asked first", 1, game("guiles", "").period(1));
+        game.setDigit(2, 0);
+        due("period(1) asked first after a change", 2, game.period(1));
+        due("period(0) after it", 1, game.period(0));
         due("period of the least", BAD, game.period(LEAST));
         due("period of the greatest", BAD, game.period(GREATEST));
     }

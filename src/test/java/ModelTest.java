@@ -14,8 +14,9 @@ import java.util.regex.Matcher;
 import java.util.regex.Pattern;
 
 /**
- * Plays random runs of calls on the class and on a model that was written from the document alone, in another way:
- * positions are sorted lists, outcomes are found in rounds, and texts are judged by regular expressions.
+ * Plays random runs of calls, all short texts and all positions on the class and on a model that was written from the
+ * document alone, in another way: positions are sorted lists, outcomes are found in rounds, and texts are judged by
+ * regular expressions.
  */
 public final class ModelTest {
     private static final int RUNS = 1000;
@@ -31,6 +32,8 @@ public final class ModelTest {
             wrong++;
             System.out.println("the runs call only " + called);
         }
+        wrong += new Sweep().texts(" 0159+!p", 5) + new Sweep().texts(" .078nim", 5) + new Sweep().texts("1+!p x", 6);
+        wrong += new Sweep().positions(2046, 1022, true) + new Sweep().positions(10, 20, false);
         System.out.println(wrong == 0 ? "the class and the model agree" : wrong + " runs are wrong");
         if (wrong != 0) {
             System.exit(1);
@@ -216,6 +219,96 @@ public final class ModelTest {
                 case 12 -> call("nimSum", game.nimSum(), model.nimSum());
                 case 13 -> call("period " + what / 3, game.period(what / 3), model.period(what / 3));
                 default -> call("count " + what, game.count(what), model.count(what));
+            }
+        }
+    }
+
+    /** Asks the class and the model for all things of a kind, with a new object before one has had too many calls. */
+    private static final class Sweep {
+        private static final int MOST_CALLS = 400;
+
+        private final Model model = new Model();
+        private HeapGames game = new HeapGames();
+        private int calls;
+        private int wrong;
+
+        /** How many of the texts of some signs and up to a length are not read alike. */
+        int texts(String signs, int longest) {
+            List<String> texts = new ArrayList<>(List.of(""));
+            for (int i = 0; i < texts.size() && texts.get(i).length() < longest; i++) {
+                for (char sign : signs.toCharArray()) {
+                    texts.add(texts.get(i) + sign);
+                }
+            }
+            for (String text : texts) {
+                start(text);
+                compare("readRules of '" + text + "'", game.readRules(), model.readRules());
+                start(text);
+                compare("readPosition of '" + text + "'", game.readPosition(), model.readPosition());
+            }
+            return wrong;
+        }
+
+        /** How many of all positions have not the same digest by some rules. */
+        int positions(int obliging, int growing, boolean misere) {
+            for (int k = 1; k <= 10; k++) {
+                model.setDigit(k, k * 5 % 8);
+            }
+            model.setObliging(obliging);
+            model.setGrowing(growing);
+            model.setMisere(misere);
+            List<String> positions = new ArrayList<>(List.of("", "p"));
+            addPositions("", 1, 10, positions);
+            for (String position : positions) {
+                start(position);
+                compare("heaps of '" + position + "'", game.readPosition(), model.readPosition());
+                compare("digest of '" + position + "'", game.digest(), model.digest());
+                compare("undo of '" + position + "'", game.undo(), model.undo());
+            }
+            return positions.size() == 2430 ? wrong : wrong + 1;
+        }
+
+        private static void addPositions(String heaps, int least, int room, List<String> all) {
+            for (int size = least; size <= room; size++) {
+                for (String bound : List.of("", "!")) {
+                    if (size > least || heaps.isEmpty() || !heaps.endsWith("!") || bound.equals("!")) {
+                        String more = heaps + (heaps.isEmpty() ? "" : "+") + size + bound;
+                        all.add(more);
+                        all.add(more + "p");
+                        addPositions(more, size, room - size, all);
+                    }
+                }
+            }
+        }
+
+        private void start(String text) {
+            if (calls == 0 || calls > MOST_CALLS) {
+                startWithANewObject();
+            }
+            game.erase();
+            model.erase();
+            for (char letter : text.toCharArray()) {
+                game.type(letter);
+                model.type(letter);
+            }
+            calls += text.length() + 4;
+        }
+
+        private void startWithANewObject() {
+            game = new HeapGames();
+            for (int k = 1; k <= 10; k++) {
+                game.setDigit(k, model.rule(k));
+            }
+            game.setObliging(model.rule(11));
+            game.setGrowing(model.rule(12));
+            game.setMisere(model.rule(13) == 1);
+            calls = 13;
+        }
+
+        private void compare(String call, long got, long due) {
+            if (got != due) {
+                wrong++;
+                System.out.println(call + " answered " + got + ", due is " + due);
             }
         }
     }
