@@ -160,6 +160,24 @@ public final class BoundarySolvingTest extends Boundaries {
         due("misere 1", 0, game.outcome());
     }
 
+    @Sentence(at = "Promise 18", says = "Returns the outcome of the position.")
+    static void promise18ByTheRulesAtPresent() {
+        String[] rules = {".7777777777", ".3", "nim", ".0", "kayles", ".31", ".7777777777", ".1", "dawson", ".7"};
+        String[] positions = {"10p", "10", "1+2+3p", "5!+5", "1+1+1+1+1+1+1+1+1+1", "3+3"};
+        for (String position : positions) {
+            HeapGames game = game(".0", position);
+            for (String rule : rules) {
+                typed(game, rule).readRules();
+                HeapGames fresh = game(rule, position);
+                due("outcome of " + position + " by " + rule, fresh.outcome(), game.outcome());
+                due("digest of " + position + " by " + rule, fresh.digest(), game.digest());
+                growing(game, 1022);
+                due("digest with growing", growing(fresh, 1022).digest(), game.digest());
+                growing(game, 0);
+            }
+        }
+    }
+
     @Sentence(at = "Promise 18", says = "Returns 0, 1 or 2.")
     static void promise18EachOfThree() {
         due("lost", 0, draw("1+1").outcome());
