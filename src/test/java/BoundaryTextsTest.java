@@ -457,6 +457,23 @@ public final class BoundaryTextsTest extends Boundaries {
         due("digest", before, game.digest());
     }
 
+    @Sentence(at = "Promise 7", says = "Empties the text.")
+    static void promise7LeavesNothingOfTheTextBehind() {
+        String[] texts = {"", " ", "1", "1+", "10", "1!", "p", ".", ".1", "ni", "nim"};
+        int[] asRules = {-2000, -2001, -2000, -2000, -2000, -2000, -2000, -2001, 1, -2000, 10};
+        int[] asPosition = {0, 0, 1, -2002, 1, 1, 0, -2000, -2000, -2000, -2000};
+        for (char before : " 0159+!p.mx".toCharArray()) {
+            HeapGames game = typed(new HeapGames(), String.valueOf(before).repeat(40));
+            game.erase();
+            for (int i = 0; i < texts.length; i++) {
+                due("rules '" + texts[i] + "' after " + before, asRules[i], typed(game, texts[i]).readRules());
+                game.erase();
+                due("position '" + texts[i] + "' after " + before, asPosition[i], typed(game, texts[i]).readPosition());
+                game.erase();
+            }
+        }
+    }
+
     @Sentence(at = "Promise 7", says = "Returns the length that it had.")
     static void promise7ReturnsTheLength() {
         HeapGames game = new HeapGames();
